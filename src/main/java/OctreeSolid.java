@@ -3,6 +3,7 @@ public final class OctreeSolid {
 
     private static final int SOLIDS = 4;
     private static final int CELLS = 512;
+    private static final int ALL_CELLS = SOLIDS * CELLS;
     private static final int OPS = 4;
     private static final int AXES = 3;
     private static final int TOP_ORDER = 3;
@@ -15,7 +16,7 @@ public final class OctreeSolid {
     private static final int DIAGONAL = 73;
 
     // Cell c of solid r stands at r * CELLS + c.
-    private final boolean[] cells = new boolean[SOLIDS * CELLS];
+    private final boolean[] cells = new boolean[ALL_CELLS];
 
     public OctreeSolid() {
         // A new array holds false alone, which is four empty solids.
