@@ -1,5 +1,4 @@
 import java.util.function.Consumer;
-import java.util.function.IntPredicate;
 
 /** One method a promise: ordinary inputs, the edges that the document names, and wrong inputs. */
 public final class PromisesTest {
@@ -29,44 +28,7 @@ public final class PromisesTest {
         promise14Kinds();
         promise15RefusedCallsChangeNothing();
         promise15SolidItself();
-        callsUpToTheLast();
         checks.finish();
-    }
-
-    private static int cell(int x, int y, int z) {
-        return x + 8 * y + 64 * z;
-    }
-
-    private static boolean[] cells(IntPredicate wanted) {
-        boolean[] found = new boolean[512];
-        for (int c = 0; c < 512; c++) {
-            found[c] = wanted.test(c);
-        }
-        return found;
-    }
-
-    /** Whether cell c has its coordinates in the ranges given. */
-    private static boolean lies(int c, int x0, int x1, int y0, int y1, int z0, int z1) {
-        int x = c % 8;
-        int y = c / 8 % 8;
-        int z = c / 64;
-        return x0 <= x && x <= x1 && y0 <= y && y <= y1 && z0 <= z && z <= z1;
-    }
-
-    private static boolean inFirst(int c) {
-        return lies(c, 0, 3, 0, 4, 0, 5);
-    }
-
-    private static boolean inSecond(int c) {
-        return lies(c, 2, 7, 1, 6, 3, 3);
-    }
-
-    /** Solid 0 is inFirst, 1 is inSecond, 2 is full, 3 is the cell 1, 2, 4. */
-    private static void fill(OctreeSolid x) {
-        x.box(0, cell(0, 0, 0), cell(3, 4, 5), 1);
-        x.box(1, cell(2, 1, 3), cell(7, 6, 3), 1);
-        x.box(2, 0, 511, 1);
-        x.box(3, cell(1, 2, 4), cell(1, 2, 4), 1);
     }
 
     private static void promise1NewObject() {
@@ -77,34 +39,34 @@ public final class PromisesTest {
             checks.due("next when new", -1, x.next(r, 0));
         }
         OctreeSolid x = new OctreeSolid();
-        fill(x);
+        Shapes.fill(x);
         checks.due("a second object is empty", 0, new OctreeSolid().volume(2));
     }
 
     private static void promise2Box() {
         for (int r = 0; r < 4; r++) {
             final int s = r;
-            checks.solid("box", cells(c -> lies(c, 1, 4, 2, 3, 5, 7)),
-                x -> x.box(s, cell(1, 2, 5), cell(4, 3, 7), 1), r);
+            checks.solid("box", Shapes.cells(c -> Shapes.lies(c, 1, 4, 2, 3, 5, 7)),
+                x -> x.box(s, Shapes.cell(1, 2, 5), Shapes.cell(4, 3, 7), 1), r);
             checks.solid("box of another solid", new boolean[512],
                 x -> x.box(s, 0, 511, 1), (r + 1) % 4);
         }
         for (int swap = 0; swap < 8; swap++) {
-            int c = cell((swap & 1) == 0 ? 1 : 4, (swap & 2) == 0 ? 2 : 3, (swap & 4) == 0 ? 5 : 7);
-            int d = cell((swap & 1) == 0 ? 4 : 1, (swap & 2) == 0 ? 3 : 2, (swap & 4) == 0 ? 7 : 5);
-            checks.solid("box by corners " + swap, cells(e -> lies(e, 1, 4, 2, 3, 5, 7)),
+            int c = Shapes.cell((swap & 1) == 0 ? 1 : 4, (swap & 2) == 0 ? 2 : 3, (swap & 4) == 0 ? 5 : 7);
+            int d = Shapes.cell((swap & 1) == 0 ? 4 : 1, (swap & 2) == 0 ? 3 : 2, (swap & 4) == 0 ? 7 : 5);
+            checks.solid("box by corners " + swap, Shapes.cells(e -> Shapes.lies(e, 1, 4, 2, 3, 5, 7)),
                 x -> x.box(0, c, d, 1), 0);
         }
-        checks.solid("box of cell 0", cells(c -> c == 0), x -> x.box(0, 0, 0, 1), 0);
-        checks.solid("box of cell 511", cells(c -> c == 511), x -> x.box(0, 511, 511, 1), 0);
-        checks.solid("box of all", cells(c -> true), x -> x.box(0, 7, 504, 1), 0);
-        checks.solid("box taken out", cells(c -> inFirst(c) && !inSecond(c)), x -> {
-            fill(x);
-            x.box(0, cell(7, 1, 3), cell(2, 6, 3), 0);
+        checks.solid("box of cell 0", Shapes.cells(c -> c == 0), x -> x.box(0, 0, 0, 1), 0);
+        checks.solid("box of cell 511", Shapes.cells(c -> c == 511), x -> x.box(0, 511, 511, 1), 0);
+        checks.solid("box of all", Shapes.cells(c -> true), x -> x.box(0, 7, 504, 1), 0);
+        checks.solid("box taken out", Shapes.cells(c -> Shapes.inFirst(c) && !Shapes.inSecond(c)), x -> {
+            Shapes.fill(x);
+            x.box(0, Shapes.cell(7, 1, 3), Shapes.cell(2, 6, 3), 0);
         }, 0);
-        checks.solid("box put over another", cells(c -> inFirst(c) || inSecond(c)), x -> {
-            fill(x);
-            x.box(0, cell(7, 1, 3), cell(2, 6, 3), 1);
+        checks.solid("box put over another", Shapes.cells(c -> Shapes.inFirst(c) || Shapes.inSecond(c)), x -> {
+            Shapes.fill(x);
+            x.box(0, Shapes.cell(7, 1, 3), Shapes.cell(2, 6, 3), 1);
         }, 0);
         OctreeSolid x = new OctreeSolid();
         checks.due("box 1", true, x.box(3, 511, 0, 1));
@@ -117,25 +79,16 @@ public final class PromisesTest {
         for (int what = 0; what < 2; what++) {
             final int w = what;
             for (int r : NO_SOLID) {
-                checks.refused("box of solid " + r, PromisesTest::fill, x -> x.box(r, 0, 511, w));
+                checks.refused("box of solid " + r, Shapes::fill, x -> x.box(r, 0, 511, w));
             }
             for (int c : NO_CELL) {
-                checks.refused("box from " + c, PromisesTest::fill, x -> x.box(0, c, 7, w));
-                checks.refused("box to " + c, PromisesTest::fill, x -> x.box(0, 7, c, w));
+                checks.refused("box from " + c, Shapes::fill, x -> x.box(0, c, 7, w));
+                checks.refused("box to " + c, Shapes::fill, x -> x.box(0, 7, c, w));
             }
         }
         for (int w : NO_BIT) {
-            checks.refused("box with " + w, PromisesTest::fill, x -> x.box(0, 0, 511, w));
+            checks.refused("box with " + w, Shapes::fill, x -> x.box(0, 0, 511, w));
         }
-    }
-
-    private static boolean combined(int op, boolean a, boolean b) {
-        return switch (op) {
-            case 0 -> a | b;
-            case 1 -> a & b;
-            case 2 -> a & !b;
-            default -> a ^ b;
-        };
     }
 
     private static void promise3Combine() {
@@ -144,22 +97,24 @@ public final class PromisesTest {
             for (int r = 0; r < 4; r++) {
                 final int s = r;
                 Consumer<OctreeSolid> ab = x -> {
-                    fill(x);
+                    Shapes.fill(x);
                     checks.due("combine", true, x.combine(s, o, 0, 1));
                 };
-                checks.solid("combine op " + op, cells(c -> combined(o, inFirst(c), inSecond(c))), ab, r);
+                checks.solid("combine op " + op,
+                    Shapes.cells(c -> Shapes.combined(o, Shapes.inFirst(c), Shapes.inSecond(c))), ab, r);
                 Consumer<OctreeSolid> ba = x -> {
-                    fill(x);
+                    Shapes.fill(x);
                     checks.due("combine", true, x.combine(s, o, 1, 0));
                 };
-                checks.solid("combine op " + op, cells(c -> combined(o, inSecond(c), inFirst(c))), ba, r);
+                checks.solid("combine op " + op,
+                    Shapes.cells(c -> Shapes.combined(o, Shapes.inSecond(c), Shapes.inFirst(c))), ba, r);
             }
-            checks.solid("combine leaves a", cells(PromisesTest::inFirst), x -> {
-                fill(x);
+            checks.solid("combine leaves a", Shapes.cells(Shapes::inFirst), x -> {
+                Shapes.fill(x);
                 x.combine(2, o, 0, 1);
             }, 0);
-            checks.solid("combine leaves b", cells(PromisesTest::inSecond), x -> {
-                fill(x);
+            checks.solid("combine leaves b", Shapes.cells(Shapes::inSecond), x -> {
+                Shapes.fill(x);
                 x.combine(2, o, 0, 1);
             }, 1);
         }
@@ -167,37 +122,37 @@ public final class PromisesTest {
 
     private static void promise3CombineRefuses() {
         for (int r : NO_SOLID) {
-            checks.refused("combine into " + r, PromisesTest::fill, x -> x.combine(r, 0, 0, 1));
-            checks.refused("combine with a " + r, PromisesTest::fill, x -> x.combine(0, 3, r, 1));
-            checks.refused("combine with b " + r, PromisesTest::fill, x -> x.combine(0, 3, 1, r));
-            checks.refused("combine with op " + r, PromisesTest::fill, x -> x.combine(3, r, 0, 1));
+            checks.refused("combine into " + r, Shapes::fill, x -> x.combine(r, 0, 0, 1));
+            checks.refused("combine with a " + r, Shapes::fill, x -> x.combine(0, 3, r, 1));
+            checks.refused("combine with b " + r, Shapes::fill, x -> x.combine(0, 3, 1, r));
+            checks.refused("combine with op " + r, Shapes::fill, x -> x.combine(3, r, 0, 1));
         }
     }
 
     private static void promise4Turn() {
         for (int r = 0; r < 4; r++) {
             final int s = r;
-            checks.solid("turn", cells(c -> !inFirst(c)), x -> {
-                fill(x);
+            checks.solid("turn", Shapes.cells(c -> !Shapes.inFirst(c)), x -> {
+                Shapes.fill(x);
                 checks.due("turn", true, x.turn(s, 0));
             }, r);
         }
         checks.solid("turn of the full solid", new boolean[512], x -> {
-            fill(x);
+            Shapes.fill(x);
             x.turn(0, 2);
         }, 0);
-        checks.solid("turn of the empty solid", cells(c -> true), x -> x.turn(3, 1), 3);
-        checks.solid("turn leaves a", cells(PromisesTest::inFirst), x -> {
-            fill(x);
+        checks.solid("turn of the empty solid", Shapes.cells(c -> true), x -> x.turn(3, 1), 3);
+        checks.solid("turn leaves a", Shapes.cells(Shapes::inFirst), x -> {
+            Shapes.fill(x);
             x.turn(1, 0);
         }, 0);
     }
 
     private static boolean mirroredFirst(int c, int axis) {
         return switch (axis) {
-            case 0 -> lies(c, 4, 7, 0, 4, 0, 5);
-            case 1 -> lies(c, 0, 3, 3, 7, 0, 5);
-            default -> lies(c, 0, 3, 0, 4, 2, 7);
+            case 0 -> Shapes.lies(c, 4, 7, 0, 4, 0, 5);
+            case 1 -> Shapes.lies(c, 0, 3, 3, 7, 0, 5);
+            default -> Shapes.lies(c, 0, 3, 0, 4, 2, 7);
         };
     }
 
@@ -206,17 +161,17 @@ public final class PromisesTest {
             final int i = axis;
             for (int r = 0; r < 4; r++) {
                 final int s = r;
-                checks.solid("mirror along " + axis, cells(c -> mirroredFirst(c, i)), x -> {
-                    fill(x);
+                checks.solid("mirror along " + axis, Shapes.cells(c -> mirroredFirst(c, i)), x -> {
+                    Shapes.fill(x);
                     checks.due("mirror", true, x.mirror(s, 0, i));
                 }, r);
             }
-            checks.solid("mirror leaves a", cells(PromisesTest::inFirst), x -> {
-                fill(x);
+            checks.solid("mirror leaves a", Shapes.cells(Shapes::inFirst), x -> {
+                Shapes.fill(x);
                 x.mirror(2, 0, i);
             }, 0);
-            checks.solid("mirror twice", cells(PromisesTest::inFirst), x -> {
-                fill(x);
+            checks.solid("mirror twice", Shapes.cells(Shapes::inFirst), x -> {
+                Shapes.fill(x);
                 x.mirror(2, 0, i);
                 x.mirror(3, 2, i);
             }, 3);
@@ -225,7 +180,7 @@ public final class PromisesTest {
 
     private static void promise6Volume() {
         OctreeSolid x = new OctreeSolid();
-        fill(x);
+        Shapes.fill(x);
         checks.due("volume(0)", 4 * 5 * 6, x.volume(0));
         checks.due("volume(1)", 6 * 6, x.volume(1));
         checks.due("volume(2)", 512, x.volume(2));
@@ -237,9 +192,9 @@ public final class PromisesTest {
 
     private static void promise7Has() {
         OctreeSolid x = new OctreeSolid();
-        fill(x);
-        checks.due("has a cell", true, x.has(3, cell(1, 2, 4)));
-        checks.due("has not a cell", false, x.has(3, cell(2, 1, 4)));
+        Shapes.fill(x);
+        checks.due("has a cell", true, x.has(3, Shapes.cell(1, 2, 4)));
+        checks.due("has not a cell", false, x.has(3, Shapes.cell(2, 1, 4)));
         checks.due("has cell 0", true, x.has(2, 0));
         checks.due("has cell 511", true, x.has(2, 511));
         for (int r : NO_SOLID) {
@@ -258,12 +213,12 @@ public final class PromisesTest {
     private static void promise8Same() {
         OctreeSolid x = new OctreeSolid();
         checks.due("same when empty", true, x.same(0, 3));
-        fill(x);
+        Shapes.fill(x);
         checks.due("same as itself", true, x.same(1, 1));
         checks.due("not the same", false, x.same(0, 1));
         x.combine(3, 0, 0, 0);
         checks.due("same as a copy", true, x.same(0, 3));
-        for (int c : new int[] {0, cell(3, 3, 3), 511}) {
+        for (int c : new int[] {0, Shapes.cell(3, 3, 3), 511}) {
             boolean was = x.has(3, c);
             x.box(3, c, c, was ? 0 : 1);
             checks.due("same but for " + c, false, x.same(0, 3));
@@ -288,7 +243,7 @@ public final class PromisesTest {
         checks.due("empty inside a cell", true, x.inside(1, 0));
         checks.due("a cell inside empty", false, x.inside(0, 1));
         x.box(0, 511, 511, 0);
-        fill(x);
+        Shapes.fill(x);
         checks.due("inside the full one", true, x.inside(1, 2));
         checks.due("the full one inside", false, x.inside(2, 1));
         checks.due("inside itself", true, x.inside(0, 0));
@@ -310,11 +265,11 @@ public final class PromisesTest {
         checks.due("cubes when empty", 1, x.cubes(0));
         x.box(0, 0, 511, 1);
         checks.due("cubes when full", 1, x.cubes(0));
-        x.box(1, cell(4, 4, 4), 511, 1);
+        x.box(1, Shapes.cell(4, 4, 4), 511, 1);
         checks.due("cubes of an eighth", 8, x.cubes(1));
-        x.box(2, cell(2, 4, 6), cell(3, 5, 7), 1);
+        x.box(2, Shapes.cell(2, 4, 6), Shapes.cell(3, 5, 7), 1);
         checks.due("cubes of a cube of order 1", 7 + 8, x.cubes(2));
-        for (int c : new int[] {0, cell(3, 4, 5), 511}) {
+        for (int c : new int[] {0, Shapes.cell(3, 4, 5), 511}) {
             x.box(3, 0, 511, 0);
             x.box(3, c, c, 1);
             checks.due("cubes of cell " + c, 7 + 7 + 8, x.cubes(3));
@@ -323,7 +278,7 @@ public final class PromisesTest {
         }
         // Of side 4, but not at a multiple of 4: cut into cubes of order 1.
         x.box(3, 0, 511, 0);
-        x.box(3, cell(2, 2, 2), cell(5, 5, 5), 1);
+        x.box(3, Shapes.cell(2, 2, 2), Shapes.cell(5, 5, 5), 1);
         checks.due("cubes of a shifted cube", 64, x.cubes(3));
         for (int r : NO_SOLID) {
             checks.due("cubes(" + r + ")", -1, x.cubes(r));
@@ -335,15 +290,15 @@ public final class PromisesTest {
         checks.due("order when empty", 3, x.order(0, 0));
         x.box(1, 0, 511, 1);
         checks.due("order when full", 3, x.order(1, 511));
-        int c = cell(3, 4, 5);
+        int c = Shapes.cell(3, 4, 5);
         x.box(2, c, c, 1);
         checks.due("order of the cell", 0, x.order(2, c));
-        checks.due("order beside it, in its cube", 0, x.order(2, cell(2, 5, 4)));
-        checks.due("order beside it, outside its cube", 1, x.order(2, cell(3, 6, 5)));
-        checks.due("order in its cube of order 2", 1, x.order(2, cell(0, 7, 7)));
-        checks.due("order outside of that", 2, x.order(2, cell(4, 4, 5)));
-        checks.due("order outside of that", 2, x.order(2, cell(3, 3, 5)));
-        checks.due("order outside of that", 2, x.order(2, cell(3, 4, 3)));
+        checks.due("order beside it, in its cube", 0, x.order(2, Shapes.cell(2, 5, 4)));
+        checks.due("order beside it, outside its cube", 1, x.order(2, Shapes.cell(3, 6, 5)));
+        checks.due("order in its cube of order 2", 1, x.order(2, Shapes.cell(0, 7, 7)));
+        checks.due("order outside of that", 2, x.order(2, Shapes.cell(4, 4, 5)));
+        checks.due("order outside of that", 2, x.order(2, Shapes.cell(3, 3, 5)));
+        checks.due("order outside of that", 2, x.order(2, Shapes.cell(3, 4, 3)));
         checks.due("order of cell 0", 2, x.order(2, 0));
         checks.due("order of cell 511", 2, x.order(2, 511));
         for (int r : NO_SOLID) {
@@ -357,21 +312,21 @@ public final class PromisesTest {
     private static void promise12Surface() {
         OctreeSolid x = new OctreeSolid();
         checks.due("surface when empty", 0, x.surface(0));
-        fill(x);
+        Shapes.fill(x);
         checks.due("surface of a box at the corner", 2 * (4 * 5 + 5 * 6 + 4 * 6), x.surface(0));
         checks.due("surface of a plate", 2 * (6 * 6 + 6 + 6), x.surface(1));
         checks.due("surface when full", 6 * 64, x.surface(2));
         checks.due("surface of a cell", 6, x.surface(3));
-        x.box(2, cell(3, 3, 3), cell(4, 4, 4), 0);
+        x.box(2, Shapes.cell(3, 3, 3), Shapes.cell(4, 4, 4), 0);
         checks.due("surface with a hollow", 6 * 64 + 6 * 4, x.surface(2));
         // Numbers that differ by 1 or 8, but no neighbours: the row or layer ends between them.
         x.box(3, 0, 511, 0);
-        x.box(3, cell(7, 0, 0), cell(7, 0, 0), 1);
-        x.box(3, cell(0, 1, 0), cell(0, 1, 0), 1);
+        x.box(3, Shapes.cell(7, 0, 0), Shapes.cell(7, 0, 0), 1);
+        x.box(3, Shapes.cell(0, 1, 0), Shapes.cell(0, 1, 0), 1);
         checks.due("surface over the end of a row", 12, x.surface(3));
         x.box(3, 0, 511, 0);
-        x.box(3, cell(3, 7, 0), cell(3, 7, 0), 1);
-        x.box(3, cell(3, 0, 1), cell(3, 0, 1), 1);
+        x.box(3, Shapes.cell(3, 7, 0), Shapes.cell(3, 7, 0), 1);
+        x.box(3, Shapes.cell(3, 0, 1), Shapes.cell(3, 0, 1), 1);
         checks.due("surface over the end of a layer", 12, x.surface(3));
         x.box(3, 0, 511, 0);
         x.box(3, 511, 511, 1);
@@ -422,79 +377,54 @@ public final class PromisesTest {
             checks.due("kinds when empty", 1, x.kinds(0, k));
             checks.due("kinds when full", 1, x.kinds(1, k));
         }
-        x.box(2, cell(3, 4, 5), cell(3, 4, 5), 1);
+        x.box(2, Shapes.cell(3, 4, 5), Shapes.cell(3, 4, 5), 1);
         checks.due("kinds of a cell, 0", 2, x.kinds(2, 0));
         checks.due("kinds of a cell, 1", 2, x.kinds(2, 1));
         checks.due("kinds of a cell, 2", 2, x.kinds(2, 2));
         checks.due("kinds of a cell, 3", 1, x.kinds(2, 3));
         // At the same place in its cubes of order 1, at another in those of order 2.
-        x.box(2, cell(5, 0, 1), cell(5, 0, 1), 1);
+        x.box(2, Shapes.cell(5, 0, 1), Shapes.cell(5, 0, 1), 1);
         checks.due("kinds of two cells, 1", 2, x.kinds(2, 1));
         checks.due("kinds of two cells, 2", 3, x.kinds(2, 2));
-        kindsAllDifferent();
         for (int r : NO_SOLID) {
             checks.due("kinds(" + r + ", 0)", -1, x.kinds(r, 0));
             checks.due("kinds(1, " + r + ")", -1, x.kinds(1, r));
         }
     }
 
-    /** Each of the 64 cubes of order 1 holds its own number in its cells; so all kinds differ. */
-    private static void kindsAllDifferent() {
-        OctreeSolid x = new OctreeSolid();
-        for (int n = 0; n < 64; n++) {
-            for (int bit = 0; bit < 6; bit++) {
-                if ((n >> bit & 1) == 1) {
-                    int c = cell(2 * (n % 4) + bit % 2, 2 * (n / 4 % 4) + bit / 2 % 2, 2 * (n / 16) + bit / 4);
-                    x.box(0, c, c, 1);
-                }
-            }
-        }
-        checks.due("kinds, all different, 0", 2, x.kinds(0, 0));
-        checks.due("kinds, all different, 1", 64, x.kinds(0, 1));
-        checks.due("kinds, all different, 2", 8, x.kinds(0, 2));
-        checks.due("kinds, all different, 3", 1, x.kinds(0, 3));
-    }
-
     private static void promise15RefusedCallsChangeNothing() {
         for (int r : NO_SOLID) {
-            checks.refused("turn into " + r, PromisesTest::fill, x -> x.turn(r, 0));
-            checks.refused("turn of " + r, PromisesTest::fill, x -> x.turn(0, r));
-            checks.refused("turn of both " + r, PromisesTest::fill, x -> x.turn(r, r));
-            checks.refused("mirror into " + r, PromisesTest::fill, x -> x.mirror(r, 0, 0));
-            checks.refused("mirror of " + r, PromisesTest::fill, x -> x.mirror(0, r, 0));
+            checks.refused("turn into " + r, Shapes::fill, x -> x.turn(r, 0));
+            checks.refused("turn of " + r, Shapes::fill, x -> x.turn(0, r));
+            checks.refused("turn of both " + r, Shapes::fill, x -> x.turn(r, r));
+            checks.refused("mirror into " + r, Shapes::fill, x -> x.mirror(r, 0, 0));
+            checks.refused("mirror of " + r, Shapes::fill, x -> x.mirror(0, r, 0));
         }
         for (int axis : NO_AXIS) {
-            checks.refused("mirror along " + axis, PromisesTest::fill, x -> x.mirror(3, 0, axis));
-            checks.refused("mirror of itself along " + axis, PromisesTest::fill, x -> x.mirror(0, 0, axis));
+            checks.refused("mirror along " + axis, Shapes::fill, x -> x.mirror(3, 0, axis));
+            checks.refused("mirror of itself along " + axis, Shapes::fill, x -> x.mirror(0, 0, axis));
         }
     }
 
     private static void promise15SolidItself() {
         for (int op = 0; op < 4; op++) {
             final int o = op;
-            checks.solid("combine, r is a, b the same", cells(c -> combined(o, inFirst(c), inFirst(c))), x -> {
-                fill(x);
+            boolean[] want = Shapes.cells(c -> Shapes.combined(o, Shapes.inFirst(c), Shapes.inFirst(c)));
+            checks.solid("combine, r is a, b the same", want, x -> {
+                Shapes.fill(x);
                 x.combine(0, o, 0, 0);
             }, 0);
         }
-        checks.solid("turn of itself", cells(c -> !inSecond(c)), x -> {
-            fill(x);
+        checks.solid("turn of itself", Shapes.cells(c -> !Shapes.inSecond(c)), x -> {
+            Shapes.fill(x);
             x.turn(1, 1);
         }, 1);
         for (int axis = 0; axis < 3; axis++) {
             final int i = axis;
-            checks.solid("mirror of itself", cells(c -> mirroredFirst(c, i)), x -> {
-                fill(x);
+            checks.solid("mirror of itself", Shapes.cells(c -> mirroredFirst(c, i)), x -> {
+                Shapes.fill(x);
                 x.mirror(0, 0, i);
             }, 0);
         }
-    }
-
-    private static void callsUpToTheLast() {
-        OctreeSolid x = new OctreeSolid();
-        for (int call = 1; call <= 511; call++) {
-            x.box(0, call, call, 1);
-        }
-        checks.due("volume as the 512th call", 511, x.volume(0));
     }
 }
